@@ -30,6 +30,11 @@ public final class LookTest {
         check.due("LONGEST", x.richest(2), 2);
         x.pours(4, 0);
         check.due("POOREST", x.richest(1), 4);
+        WellOfTheSilent first = check.told("pm00;ps00;g006;");
+        check.due("RICHEST is the first", first.richest(0), 0);
+        check.due("LONGEST is the first", first.richest(2), 0);
+        first.pours(0, 4);
+        check.due("POOREST is the first", first.richest(1), 0);
         WellOfTheSilent nobody = new WellOfTheSilent();
         for (int what = 0; what < 3; what++) {
             int told = what;
@@ -82,6 +87,9 @@ public final class LookTest {
         x.befriends(3, 3);
         check.due("CARRIES", x.carries(0), 1);
         check.due("MUTUAL", x.carries(1), 0);
+        x.befriends(1, 1);
+        check.due("none CARRIES", x.carries(0), 0);
+        x.befriends(1, 0);
         Check.tell(x, "pp00;f54;");
         check.due("the FRIEND has come", x.carries(0), 49);
         check.due("MUTUAL", x.carries(1), 1);
@@ -99,6 +107,8 @@ public final class LookTest {
         check.due("who has SPOKEN stays so", check.told("h01;pm09;pm09;s1;").two(0, 1, 1), 1);
         check.due("a LIAR", check.told("h01;pl09;pm09;").two(0, 1, 1), 10);
         check.due("dawn takes it back", check.told("pm09;pm09;").two(0, 1, 24), 11);
+        // Only if the other speaks does the first come to draw, and gives him half of it.
+        check.due("the other's word counts", check.told("h01;w04;pm09;pm09;f10;g105;").two(1, 0, 1), 1);
         String noPair = "h01;w05;pt59;pw65;pp67;f01;g005;f12;g104;f20;g211;";
         check.due("no pair", check.told(noPair).two(0, 1, 1), -9);
         WellOfTheSilent x = check.told("pp09;pp09;");
@@ -160,6 +170,9 @@ public final class LookTest {
         WellOfTheSilent x = check.told("pp00;pp00;pp00;pp00;g009;g103;");
         check.due("mean(0)", x.mean(0), 11);
         check.due("mean(1)", x.mean(1), 2);
+        WellOfTheSilent alone = check.told("pp00;g007;");
+        check.due("mean(0) of one", alone.mean(0), 7);
+        check.due("mean(1) of one", alone.mean(1), 1);
         WellOfTheSilent dry = check.told("pp00;pp00;g000;g100;");
         check.due("mean(0) of 0", dry.mean(0), 0);
         check.due("mean(1) of 0", dry.mean(1), 1);

@@ -148,6 +148,7 @@ public final class ThoughtTest {
         check.due("the best already", x.friendBest(0, 12), -9);
         WellOfTheSilent several = check.told("pp08;pp09;pp09;ps09;f03;g312;");
         check.due("of several the least", several.friendBest(0, 1), 1);
+        check.due("the first of PEOPLE", check.told("ps00;pp08;").friendBest(1, 12), 0);
         check.due("none but himself", check.told("ps09;pp08;f10;g099;").friendBest(1, 1), -9);
         check.due("a FRIEND must be there", check.told("pp08;ps00;f01;g012;").friendBest(0, 1), -9);
     }
@@ -203,6 +204,8 @@ public final class ThoughtTest {
         WellOfTheSilent given = check.told("l00;w00;ps00;pm09;g009;g102;");
         check.due("his WATER comes to THE WELL", given.send(12, 0), 0);
         check.due("how many", given.send(12, 1), 1);
+        check.due("1 is not DRY", check.told("ps00;pp00;g104;").send(12, 1), 1);
+        check.due("he HAS 0 then", check.told("l00;w04;pm04;ps00;f01;g000;g104;").send(12, 1), 0);
         WellOfTheSilent none = check.told("pp00;pp00;");
         check.due("none not DRY", none.send(24, 0), 0);
         check.due("how many", none.send(24, 1), 0);
