@@ -780,6 +780,7 @@ public final class CallsEdgeTest {
         edges.asks("two(0, 1, 1)", 0);
         edges.told("h01;w05;pt59;pw65;pp67;f01;g005;f12;g104;f20;g211;");
         edges.asks("two(0, 1, 1)", -9);
+        edges.asks("two(1, 0, 1)", -9);
 
         edges.says(30, "-1 either (one twice, too); -4; -6 24");
         refusesNobody("two(%s, 1, 0)");

@@ -13,6 +13,8 @@ import java.util.Map;
 final class Edges {
     private static final long LONG_REFUSAL = 4000000000000000000L;
     private static final int PROMISED_CALLS = 512;
+    private static final String[] LATER = {"then(1, 2)", "then(13, 1)", "then(13, 3)", "then(60, 0)", "then(60, 3)", "next()",
+        "letter(59)", "hill()", "whatIs(0, 0)", "judge()", "count(2)", "on()"};
     private static final Map<String, Method> FACE = new HashMap<>();
 
     static {
@@ -147,10 +149,10 @@ final class Edges {
         return other;
     }
 
-    /** All that can be seen of it: also, as calls further on, its letters, its ROW and its IMAGE. */
+    /** All that can be seen of it: also, by calls further on, what it thinks, its letters, its ROW and its IMAGE. */
     private static String later(One one, int refusalMore) {
         StringBuilder text = new StringBuilder(refusals(one, refusalMore) + seen(one));
-        for (String call : new String[] {"letter(59)", "hill()", "whatIs(0, 0)", "judge()", "count(2)", "on()"}) {
+        for (String call : LATER) {
             text.append(one.answer(call)).append(' ');
         }
         return text + seen(one);
