@@ -184,7 +184,7 @@ final class Edges {
         return call.substring(0, call.indexOf('('));
     }
 
-    private static long answerOf(WellOfTheSilent x, String call) {
+    static long answerOf(WellOfTheSilent x, String call) {
         String inside = call.substring(call.indexOf('(') + 1, call.length() - 1);
         String[] words = inside.isEmpty() ? new String[0] : inside.split(", ");
         Object[] numbers = Arrays.stream(words).map(Edges::number).toArray();

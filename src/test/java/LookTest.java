@@ -39,9 +39,9 @@ public final class LookTest {
         for (int what = 0; what < 3; what++) {
             int told = what;
             check.due("richest of nobody", nobody.richest(what), -9);
-            check.changesNothing(x, "richest", () -> x.richest(told));
+            check.changesNothing(first, "richest", () -> first.richest(told));
         }
-        check.refuses(x, "richest(3)", () -> x.richest(3), -2);
+        check.refuses(first, "richest(3)", () -> first.richest(3), -2);
         check.refuses(nobody, "richest(-1)", () -> nobody.richest(-1), -2);
     }
 
@@ -51,9 +51,10 @@ public final class LookTest {
         for (int hour = 0; hour < 12; hour++) {
             check.due("quiet(" + hour + ")", x.quiet(hour), want[hour]);
         }
-        check.changesNothing(x, "quiet(0)", () -> x.quiet(0));
-        check.refuses(x, "quiet(-1)", () -> x.quiet(-1), -4);
-        check.refuses(x, "quiet(12)", () -> x.quiet(12), -6);
+        WellOfTheSilent asked = check.told("pp20;pw20;h05;");
+        check.changesNothing(asked, "quiet(0)", () -> asked.quiet(0));
+        check.refuses(asked, "quiet(-1)", () -> asked.quiet(-1), -4);
+        check.refuses(asked, "quiet(12)", () -> asked.quiet(12), -6);
         check.due("quiet of nobody", new WellOfTheSilent().quiet(0), 0);
     }
 
@@ -93,9 +94,11 @@ public final class LookTest {
         Check.tell(x, "pp00;f54;");
         check.due("the FRIEND has come", x.carries(0), 49);
         check.due("MUTUAL", x.carries(1), 1);
-        check.changesNothing(x, "carries(0)", () -> x.carries(0));
-        check.refuses(x, "carries(2)", () -> x.carries(2), -2);
-        check.refuses(x, "carries(-1)", () -> x.carries(-1), -2);
+        WellOfTheSilent asked = check.told("pp00;pp00;f01;");
+        check.changesNothing(asked, "carries(0)", () -> asked.carries(0));
+        check.changesNothing(asked, "carries(1)", () -> asked.carries(1));
+        check.refuses(asked, "carries(2)", () -> asked.carries(2), -2);
+        check.refuses(asked, "carries(-1)", () -> asked.carries(-1), -2);
     }
 
     private static void two() {
@@ -113,13 +116,13 @@ public final class LookTest {
         check.due("no pair", check.told(noPair).two(0, 1, 1), -9);
         WellOfTheSilent x = check.told("pp09;pp09;");
         check.changesNothing(x, "two(0, 1, 24)", () -> x.two(0, 1, 24));
-        check.refuses(x, "two(0, 0, -1)", () -> x.two(0, 0, -1), -1);
-        check.refuses(x, "two(0, 2, 25)", () -> x.two(0, 2, 25), -1);
-        check.refuses(x, "two(2, 0, 0)", () -> x.two(2, 0, 0), -1);
-        check.refuses(x, "two(-1, 0, 0)", () -> x.two(-1, 0, 0), -1);
-        check.refuses(x, "two(0, -1, 0)", () -> x.two(0, -1, 0), -1);
-        check.refuses(x, "two(0, 1, -1)", () -> x.two(0, 1, -1), -4);
-        check.refuses(x, "two(0, 1, 25)", () -> x.two(0, 1, 25), -6);
+        int[][] wrong = {{0, 0, -1, -1}, {0, 2, 25, -1}, {2, 0, 0, -1}, {-1, 0, 0, -1}, {0, -1, 0, -1}, {0, 1, -1, -4},
+            {0, 1, 25, -6}};
+        for (int[] each : wrong) {
+            WellOfTheSilent y = check.told("pp09;pp09;");
+            String call = "two(" + each[0] + ", " + each[1] + ", " + each[2] + ")";
+            check.refuses(y, call, () -> y.two(each[0], each[1], each[2]), each[3]);
+        }
     }
 
     private static void sneeze() {
@@ -152,18 +155,22 @@ public final class LookTest {
     }
 
     private static void sneezeRefused() {
+        sneezeRefuses("of nobody", new int[] {1, -1, 1, -1, 2}, -1);
+        sneezeRefuses("of -1", new int[] {-1, 0, 2, 0, 0}, -1);
+        sneezeRefuses("n below", new int[] {0, -1, 21, 100, 2}, -4);
+        sneezeRefuses("t below", new int[] {0, 8, 1, 100, 2}, -4);
+        sneezeRefuses("v below", new int[] {0, 8, 21, -1, 2}, -4);
+        sneezeRefuses("n above", new int[] {0, 8, 2, 0, 2}, -6);
+        sneezeRefuses("t above", new int[] {0, 0, 21, 0, 2}, -6);
+        sneezeRefuses("v above", new int[] {0, 0, 2, 100, 2}, -6);
+        sneezeRefuses("part above", new int[] {0, 7, 20, 99, 2}, -2);
+        sneezeRefuses("part below", new int[] {0, 7, 20, 99, -1}, -2);
+        sneezeRefuses("far above", new int[] {0, MOST, MOST, MOST, MOST}, -6);
+    }
+
+    private static void sneezeRefuses(String what, int[] asked, int refusal) {
         WellOfTheSilent x = check.told("pm09;");
-        check.refuses(x, "sneeze of nobody", () -> x.sneeze(1, -1, 1, -1, 2), -1);
-        check.refuses(x, "sneeze of -1", () -> x.sneeze(-1, 0, 2, 0, 0), -1);
-        check.refuses(x, "sneeze n below", () -> x.sneeze(0, -1, 21, 100, 2), -4);
-        check.refuses(x, "sneeze t below", () -> x.sneeze(0, 8, 1, 100, 2), -4);
-        check.refuses(x, "sneeze v below", () -> x.sneeze(0, 8, 21, -1, 2), -4);
-        check.refuses(x, "sneeze n above", () -> x.sneeze(0, 8, 2, 0, 2), -6);
-        check.refuses(x, "sneeze t above", () -> x.sneeze(0, 0, 21, 0, 2), -6);
-        check.refuses(x, "sneeze v above", () -> x.sneeze(0, 0, 2, 100, 2), -6);
-        check.refuses(x, "sneeze part above", () -> x.sneeze(0, 7, 20, 99, 2), -2);
-        check.refuses(x, "sneeze part below", () -> x.sneeze(0, 7, 20, 99, -1), -2);
-        check.refuses(x, "sneeze far above", () -> x.sneeze(0, MOST, MOST, MOST, MOST), -6);
+        check.refuses(x, "sneeze " + what, () -> x.sneeze(asked[0], asked[1], asked[2], asked[3], asked[4]), refusal);
     }
 
     private static void mean() {

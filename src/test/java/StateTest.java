@@ -461,8 +461,9 @@ public final class StateTest {
         }
         int[] others = {-1, 8, 9, 10, 17, LEAST, MOST};
         for (int what : others) {
-            check.changesNothing(x, "count(" + what + ")", () -> x.count(what));
-            check.due("count(" + what + ")", x.count(what), -9);
+            WellOfTheSilent y = check.told("pp54;pm33;g142;");
+            check.changesNothing(y, "count(" + what + ")", () -> y.count(what));
+            check.due("count(" + what + ")", y.count(what), -9);
         }
     }
 }

@@ -1,4 +1,4 @@
-import java.util.function.IntUnaryOperator;
+import java.util.function.ToIntBiFunction;
 
 /** Promises 13 to 24: what comes of it in thought, and what would be better. */
 public final class ThoughtTest {
@@ -23,20 +23,30 @@ public final class ThoughtTest {
         check.end();
     }
 
-    private static void refusesNumbers(WellOfTheSilent x, String call, IntUnaryOperator run, int least, int most) {
-        check.refuses(x, call + " below", () -> run.applyAsInt(least - 1), -4);
-        check.refuses(x, call + " above", () -> run.applyAsInt(most + 1), -6);
-        check.refuses(x, call + " far below", () -> run.applyAsInt(LEAST), -4);
-        check.refuses(x, call + " far above", () -> run.applyAsInt(MOST), -6);
-        check.changesNothing(x, call + " at the least", () -> run.applyAsInt(least));
-        check.changesNothing(x, call + " at the most", () -> run.applyAsInt(most));
+    // Each look is at an object of its own, for one object has no more than the 512 promised calls.
+    private static void refusesNumbers(String letters, String call, ToIntBiFunction<WellOfTheSilent, Integer> run,
+            int least, int most) {
+        refuses(letters, call, run, least - 1, -4);
+        refuses(letters, call, run, most + 1, -6);
+        refuses(letters, call, run, LEAST, -4);
+        refuses(letters, call, run, MOST, -6);
+        for (int n : new int[] {least, most}) {
+            WellOfTheSilent x = check.told(letters);
+            check.changesNothing(x, call + " with " + n, () -> run.applyAsInt(x, n));
+        }
     }
 
-    private static void refusesNobody(WellOfTheSilent x, String call, IntUnaryOperator run) {
-        check.refuses(x, call + " of one too many", () -> run.applyAsInt(x.count(0)), -1);
-        check.refuses(x, call + " of -2", () -> run.applyAsInt(-2), -1);
-        check.refuses(x, call + " of least", () -> run.applyAsInt(LEAST), -1);
-        check.refuses(x, call + " of most", () -> run.applyAsInt(MOST), -1);
+    private static void refusesNobody(String letters, String call, ToIntBiFunction<WellOfTheSilent, Integer> run) {
+        int people = check.told(letters).count(0);
+        for (int person : new int[] {people, -2, LEAST, MOST}) {
+            refuses(letters, call, run, person, -1);
+        }
+    }
+
+    private static void refuses(String letters, String call, ToIntBiFunction<WellOfTheSilent, Integer> run,
+            int number, int refusal) {
+        WellOfTheSilent x = check.told(letters);
+        check.refuses(x, call + " with " + number, () -> run.applyAsInt(x, number), refusal);
     }
 
     private static void hasThen() {
@@ -46,8 +56,8 @@ public final class ThoughtTest {
         for (int i = 0; i < hours.length; i++) {
             check.due("hasThen(0, " + hours[i] + ")", x.hasThen(0, hours[i]), want[i]);
         }
-        refusesNumbers(x, "hasThen(0, n)", n -> x.hasThen(0, n), 0, 60);
-        refusesNobody(x, "hasThen(person, 61)", person -> x.hasThen(person, 61));
+        refusesNumbers("pp05;", "hasThen(0, n)", (y, n) -> y.hasThen(0, n), 0, 60);
+        refusesNobody("pp05;", "hasThen(person, 61)", (y, person) -> y.hasThen(person, 61));
     }
 
     private static void then() {
@@ -59,11 +69,12 @@ public final class ThoughtTest {
                 check.due("then(" + hours[i] + ", " + what + ")", x.then(hours[i], what), want[i][what]);
             }
         }
-        refusesNumbers(x, "then(n, 0)", n -> x.then(n, 0), 0, 60);
-        check.refuses(x, "then(60, 4)", () -> x.then(60, 4), -2);
-        check.refuses(x, "then(0, -1)", () -> x.then(0, -1), -2);
-        check.refuses(x, "then(-1, 4)", () -> x.then(-1, 4), -4);
-        check.refuses(x, "then(61, 4)", () -> x.then(61, 4), -6);
+        refusesNumbers("pp05;pm04;pl03;", "then(n, 0)", (y, n) -> y.then(n, 0), 0, 60);
+        refusesNumbers("pp05;pm04;pl03;", "then(n, 3)", (y, n) -> y.then(n, 3), 0, 60);
+        refuses("pp05;pm04;pl03;", "then(60, what)", (y, what) -> y.then(60, what), 4, -2);
+        refuses("pp05;pm04;pl03;", "then(0, what)", (y, what) -> y.then(0, what), -1, -2);
+        refuses("pp05;pm04;pl03;", "then(n, 4)", (y, n) -> y.then(n, 4), -1, -4);
+        refuses("pp05;pm04;pl03;", "then(n, 4)", (y, n) -> y.then(n, 4), 61, -6);
     }
 
     private static void thoughtPassesTheLastHour() {
@@ -88,12 +99,13 @@ public final class ThoughtTest {
         x.pours(4, 0);
         check.due("dry(4) with 0", x.dry(4), 0);
         check.due("FIRST", x.dry(-1), 4);
-        refusesNobody(x, "dry(person)", x::dry);
+        refusesNobody("pt00;pw00;ps00;pp00;pm00;g406;", "dry(person)", WellOfTheSilent::dry);
         check.due("FIRST at the end", check.told("pt00;").dry(-1), 0);
         check.due("FIRST behind the end", check.told("pt00;g006;").dry(-1), -9);
         check.due("FIRST of nobody", new WellOfTheSilent().dry(-1), -9);
-        check.changesNothing(x, "dry(-1)", () -> x.dry(-1));
-        check.changesNothing(x, "dry(0)", () -> x.dry(0));
+        WellOfTheSilent asked = check.told("pt00;pm09;");
+        check.changesNothing(asked, "dry(-1)", () -> asked.dry(-1));
+        check.changesNothing(asked, "dry(0)", () -> asked.dry(0));
         check.due("DRY for an HOUR", check.told("h11;pm09;g002;s0;").dry(0), 1);
     }
 
@@ -113,7 +125,7 @@ public final class ThoughtTest {
         check.due("flowBest(23)", x.flowBest(23), 0);
         check.due("flowBest(24)", x.flowBest(24), 1);
         check.due("flowBest(48)", x.flowBest(48), 2);
-        refusesNumbers(x, "flowBest(n)", x::flowBest, 0, 48);
+        refusesNumbers("w00;pp09;", "flowBest(n)", WellOfTheSilent::flowBest, 0, 48);
         check.due("the most FLOW", check.told("w00;pp09;pp09;pp09;pp09;g301;").flowBest(12), 30);
         check.due("no FLOW does", check.told("w00;pp09;pp09;pp09;pp09;g300;").flowBest(12), -9);
         check.due("without a CAN", check.told("pp00;").flowBest(24), -9);
@@ -128,8 +140,8 @@ public final class ThoughtTest {
         check.due("canBest(0, 24)", x.canBest(0, 24), 1);
         check.due("canBest(0, 48)", x.canBest(0, 48), 2);
         check.due("canBest of a DRY one", x.canBest(1, 0), -9);
-        refusesNumbers(x, "canBest(0, n)", n -> x.canBest(0, n), 0, 48);
-        refusesNobody(x, "canBest(person, -1)", person -> x.canBest(person, -1));
+        refusesNumbers("pp09;pp00;g100;", "canBest(0, n)", (y, n) -> y.canBest(0, n), 0, 48);
+        refusesNobody("pp09;pp00;g100;", "canBest(person, -1)", (y, person) -> y.canBest(person, -1));
         check.due("without WATER", check.told("w00;l00;pp09;").canBest(0, 24), -9);
         check.due("who gives half of it", check.told("ps00;pm09;f10;g001;g101;").canBest(1, 12), 3);
         check.due("of a SCOLD", check.told("ps00;").canBest(0, 24), -9);
@@ -142,8 +154,8 @@ public final class ThoughtTest {
         check.due("friendBest(2, 12)", x.friendBest(2, 12), 1);
         check.due("friendBest(1, 12)", x.friendBest(1, 12), -9);
         check.due("friendBest(0, 0)", x.friendBest(0, 0), -9);
-        refusesNumbers(x, "friendBest(0, n)", n -> x.friendBest(0, n), 0, 48);
-        refusesNobody(x, "friendBest(person, 49)", person -> x.friendBest(person, 49));
+        refusesNumbers("pp08;ps00;pw09;", "friendBest(0, n)", (y, n) -> y.friendBest(0, n), 0, 48);
+        refusesNobody("pp08;ps00;pw09;", "friendBest(person, 49)", (y, person) -> y.friendBest(person, 49));
         x.befriends(0, 1);
         check.due("the best already", x.friendBest(0, 12), -9);
         WellOfTheSilent several = check.told("pp08;pp09;pp09;ps09;f03;g312;");
@@ -163,7 +175,7 @@ public final class ThoughtTest {
         WellOfTheSilent x = check.told("ps09;h01;");
         check.due("who has SPOKEN has, for this DAY", x.hush(11), -9);
         check.due("from the next dawn", x.hush(12), 0);
-        refusesNumbers(x, "hush(n)", x::hush, 0, 48);
+        refusesNumbers("ps09;h01;", "hush(n)", WellOfTheSilent::hush, 0, 48);
         check.due("of nobody", new WellOfTheSilent().hush(48), -9);
     }
 
@@ -178,8 +190,7 @@ public final class ThoughtTest {
         // A hushed LIAR is a MUTE, so SPOKEN he leaves this DAY's WATER to the next.
         check.due("a LIAR", check.told("h01;w02;l00;pl02;s0;pm02;g101;").fewest(11), 1);
         check.due("of nobody", new WellOfTheSilent().fewest(24), 0);
-        WellOfTheSilent x = check.told("ps09;ps09;");
-        refusesNumbers(x, "fewest(n)", x::fewest, 0, 24);
+        refusesNumbers("ps09;ps09;", "fewest(n)", WellOfTheSilent::fewest, 0, 24);
     }
 
     private static void word() {
@@ -191,8 +202,7 @@ public final class ThoughtTest {
         check.due("who has SPOKEN", check.told("h01;pp45;pp43;s0;").word(1), 1);
         check.due("of nobody", new WellOfTheSilent().word(24), -9);
         check.due("at the end", check.told("h01;w09;l00;pm09;pm09;g100;").word(11), 0);
-        WellOfTheSilent x = check.told("h01;pp43;pp45;");
-        refusesNumbers(x, "word(n)", x::word, 1, 24);
+        refusesNumbers("h01;pp43;pp45;", "word(n)", WellOfTheSilent::word, 1, 24);
     }
 
     private static void send() {
@@ -211,11 +221,12 @@ public final class ThoughtTest {
         check.due("how many", none.send(24, 1), 0);
         check.due("of nobody", new WellOfTheSilent().send(24, 0), -9);
         check.due("how many of nobody", new WellOfTheSilent().send(24, 1), -9);
-        refusesNumbers(x, "send(n, 0)", n -> x.send(n, 0), 0, 24);
-        check.refuses(x, "send(0, 2)", () -> x.send(0, 2), -2);
-        check.refuses(x, "send(24, -1)", () -> x.send(24, -1), -2);
-        check.refuses(x, "send(-1, 2)", () -> x.send(-1, 2), -4);
-        check.refuses(x, "send(25, 2)", () -> x.send(25, 2), -6);
+        refusesNumbers("pp00;pp00;", "send(n, 0)", (y, n) -> y.send(n, 0), 0, 24);
+        refusesNumbers("pp00;pp00;", "send(n, 1)", (y, n) -> y.send(n, 1), 0, 24);
+        refuses("pp00;pp00;", "send(0, what)", (y, what) -> y.send(0, what), 2, -2);
+        refuses("pp00;pp00;", "send(24, what)", (y, what) -> y.send(24, what), -1, -2);
+        refuses("pp00;pp00;", "send(n, 2)", (y, n) -> y.send(n, 2), -1, -4);
+        refuses("pp00;pp00;", "send(n, 2)", (y, n) -> y.send(n, 2), 25, -6);
     }
 
     private static void next() {
